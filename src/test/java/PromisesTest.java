@@ -725,6 +725,8 @@ public final class PromisesTest {
         d.is("the least is not his own", x.alone(0, 1), 1);
         x = hillOf(VIEWER, 0, 0, UP, GIRL, 0, 35, LEFT);
         d.is("four cells are watched, too", x.alone(0, 0), 28);
+        d.is("the first cell", hillOf(VIEWER, 0, 5, UP).alone(0, 1), 0);
+        d.is("all but his own", hillOf(VIEWER, 0, 5, UP).alone(0, 0), 35);
         x = hillOf(VIEWER, 0, 35, DOWN, VIEWER, 0, 0, RIGHT);
         // Watched: 1, 2, 3. In the lens (up): 6, 12. His own cell and the other's are not free.
         d.is("how many", x.alone(0, 0), 36 - 2 - 3 - 2);
@@ -745,7 +747,9 @@ public final class PromisesTest {
         d.is("one watches", twoViewers().turnAll(), 1);
         d.is("each other", hillOf(VIEWER, 0, 14, DOWN, VIEWER, 0, 20, UP).turnAll(), 2);
         d.is("none watches", withGrinderBehind(VIEWER).turnAll(), 0);
-        SeenFromBehind x = hillOf(VIEWER, 0, 14, UP, GRINDER, 0, 8, UP, GRINDER, 0, 15, UP, GRINDER, 0, 13, UP);
+        SeenFromBehind x = hillOf(VIEWER, 0, 14, RIGHT, GRINDER, 0, 15, UP, GRINDER, 0, 13, UP, GRINDER, 0, 20, UP);
+        d.is("up is left", x.turnAll(), 1);
+        x = hillOf(VIEWER, 0, 14, UP, GRINDER, 0, 8, UP, GRINDER, 0, 15, UP, GRINDER, 0, 13, UP);
         d.is("one way is left", x.turnAll(), 1);
         x.person(GRINDER, 0, 32, UP);
         d.is("three below", x.turnAll(), -9);
@@ -761,6 +765,7 @@ public final class PromisesTest {
         }
         x = hillOf(GIRL, 0, 35, UP);
         d.is("where he is not watched", x.post(VIEWER), 321);
+        d.is("all the first row is watched", hillOf(MASTER, 0, 0, RIGHT).post(VIEWER), 60);
         // At 0 he would have the one at 1 ahead, but the one at 6 in the lens only if he faces up.
         x = hillOf(GRINDER, 0, 1, UP, GRINDER, 0, 6, UP);
         d.is("post(0)", x.post(VIEWER), 1);
@@ -856,6 +861,11 @@ public final class PromisesTest {
         d.is("seen wherever he goes", x.two(0, 1), 10 * LEFT + 1);
         x = hillOf(VIEWER, 0, 35, UP, GRINDER, 0, 0, UP);
         d.is("far apart", x.two(0, 1), RIGHT);
+        x = hillOf(VIEWER, 0, 1, UP, GRINDER, 0, 8, UP);
+        // Up, at 2, he would be seen by one who turns to the right; at 9 by no faces.
+        d.is("not up", x.two(0, 1), RIGHT);
+        x = hillOf(VIEWER, 0, 6, UP, GRINDER, 0, 0, UP, GRINDER, 0, 1, UP);
+        d.is("he can but stay, and is ahead", x.two(0, 1), 10 * UP + 4);
         x = hillOf(GRINDER, 0, 14, DOWN, VIEWER, 0, 9, UP);
         // Down to 15 he would be seen; up, to 3, he is not.
         d.is("up", x.two(0, 1), UP);
@@ -918,6 +928,9 @@ public final class PromisesTest {
         x = hillOf(GRINDER, 0, 0, UP, GRINDER, 0, 35, UP);
         d.is("none watched", x.busiest(0), 0);
         d.is("none watched, how many", x.busiest(1), 0);
+        x = hillOf(GRINDER, 0, 14, UP, VIEWER, 0, 20, UP);
+        d.is("watched by one", x.busiest(0), 0);
+        d.is("watched by one, how many", x.busiest(1), 1);
         x = hillOf(VIEWER, 0, 8, DOWN, VIEWER, 0, 13, RIGHT, GRINDER, 0, 14, UP, GRINDER, 0, 20, UP);
         d.is("watched by two", x.busiest(0), 2);
         d.is("watched by two, how many", x.busiest(1), 2);
@@ -1062,6 +1075,7 @@ public final class PromisesTest {
         x.stands(0, 2);
         d.is("his own cell is not free", x.most(0, 0), 1);
         d.is("how many elsewhere", x.most(0, 1), 1);
+        d.is("the first cell", hillOf(GRINDER, 0, 35, UP, VIEWER, 0, 6, UP).most(0, 0), 0);
         x = hillOf(GRINDER, 0, 0, UP);
         d.is("none sees him", x.most(0, 0), 1);
         d.is("none sees him, how many", x.most(0, 1), 0);
@@ -1150,7 +1164,7 @@ public final class PromisesTest {
         int[] seeds = {0, 1, 7, -1, MIN, MAX, 123456789};
         for (int z : seeds) {
             for (int n = 1; n <= 20; n += 19) {
-                SeenFromBehind x = hillOf(GRINDER, 0, 14, DOWN, GRINDER, 0, 20, LEFT);
+                SeenFromBehind x = hillOf(GRINDER, 0, 14, UP, GRINDER, 0, 20, LEFT);
                 x.nights(3);
                 SeenFromBehind far = hillOf(VIEWER, 0, 14, UP, GRINDER, 0, 32, UP);
                 int[] draws = draws(z, 2 * n);
@@ -1164,7 +1178,7 @@ public final class PromisesTest {
                 d.is("lots(" + n + ", " + z + ", 0)", x.lots(n, z, 0), starts);
                 d.is("GRINDERS watch nobody", x.lots(n, z, 1), 0);
                 d.is("lots(" + n + ", " + z + ", 1)", far.lots(n, z, 1), watching);
-                stateIs(d, x, 0, 14, DOWN, 0);
+                stateIs(d, x, 0, 14, UP, 3);
                 d.is("NIGHT", x.count(1), 3);
             }
         }
@@ -1216,6 +1230,14 @@ public final class PromisesTest {
         d.is("a newcomer", x.person(MASTER, 3, 35, RIGHT), 2);
         d.is("his kind", x.personOf(2, 0), MASTER);
         stateIs(d, x, 2, 35, RIGHT, 0);
+        x = hillOf(GRINDER, 0, 35, UP);
+        x.image();
+        x.person(GRINDER, 0, 14, UP);
+        x.person(GRINDER, 0, 20, RIGHT);
+        d.is("the later one starts", x.nights(3), 3);
+        x.restore();
+        d.is("another one comes", x.person(GRINDER, 0, 14, UP), 1);
+        stateIs(d, x, 1, 14, UP, 0);
         SeenFromBehind empty = new SeenFromBehind();
         empty.image();
         empty.person(0, 0, 0, 0);
@@ -1225,15 +1247,15 @@ public final class PromisesTest {
 
     private static void count(Due d) {
         SeenFromBehind x = hillOf(VIEWER, 0, 14, UP, VIEWER, 0, 20, UP, GRINDER, 0, 26, RIGHT, MASTER, 0, 0, RIGHT);
-        x.person(GRINDER, 0, 5, DOWN);
+        x.person(GRINDER, 0, 11, DOWN);
         x.nights(2);
         x.turns(0, UP);
         x.feed('n');
         x.row(3);
         x.row(4);
         // On the first night 0 turns, whom 1 watches; 1, whom nobody watches, starts on both nights.
-        // Then 0, turned back, has 1 in the lens; 1 has 0 ahead and 2 in the lens; 3 has 4 ahead.
-        int[] want = {5, 2, 3, 2, 2, 1, 2, 2};
+        // Then 0, turned back, has 1 in the lens; 1 has 0 ahead and 2 in the lens.
+        int[] want = {5, 2, 3, 1, 2, 1, 2, 2};
         for (int what = 0; what < want.length; what++) {
             d.is("count(" + what + ")", x.count(what), want[what]);
         }

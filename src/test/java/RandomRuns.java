@@ -23,6 +23,7 @@ public final class RandomRuns {
     private Model model;
     private int calls;
     private int area;
+    private boolean longNights;
     private StringBuilder log;
 
     public static void main(String[] args) throws Exception {
@@ -70,6 +71,7 @@ public final class RandomRuns {
         model = new Model();
         calls = 0;
         area = draw(3);
+        longNights = draw(5) == 0;
         log = new StringBuilder();
         while (calls < CALLS) {
             if (!act(due)) {
@@ -94,13 +96,13 @@ public final class RandomRuns {
         if (choice < 18) {
             return call(due, "person", kind(), draw(10), cell(), draw(4));
         }
-        if (choice < 20 && draw(4) == 0) {
-            return call(due, "restore");
+        if (choice < 26 && longNights) {
+            return call(due, "nights", draw(62));
         }
         Method m = models.get(draw(models.size()));
         // What makes all new, or passes many nights, comes seldom, so that hills live for a while.
         boolean seldom = m.getName().equals("restore") || m.getName().equals("nights") || m.getName().equals("turnAll");
-        if (seldom && draw(6) > 0) {
+        if (seldom && draw(longNights ? 60 : 6) > 0) {
             return true;
         }
         Parameter[] parameters = m.getParameters();
