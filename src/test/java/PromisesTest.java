@@ -1,20 +1,5 @@
 /** A test for each promise, with answers that were found by hand from the document's words. */
-public final class PromisesTest {
-
-    private static final int VIEWER = 0;
-    private static final int GIRL = 1;
-    private static final int BORE = 2;
-    private static final int MASTER = 3;
-    private static final int GRINDER = 4;
-    private static final int EDGE = 5;
-
-    private static final int UP = 0;
-    private static final int RIGHT = 1;
-    private static final int DOWN = 2;
-    private static final int LEFT = 3;
-
-    private static final int MIN = Integer.MIN_VALUE;
-    private static final int MAX = Integer.MAX_VALUE;
+public final class PromisesTest extends Hills {
 
     private static int failed = 0;
 
@@ -75,68 +60,6 @@ public final class PromisesTest {
 
     private static void test(String name, Due.Test test) {
         failed += Due.test(name, test) ? 0 : 1;
-    }
-
-    /** A hill with people told by KIND, FIGURE, CELL and FACES each. */
-    private static SeenFromBehind hillOf(int... people) {
-        SeenFromBehind x = new SeenFromBehind();
-        for (int i = 0; i < people.length; i += 4) {
-            if (x.person(people[i], people[i + 1], people[i + 2], people[i + 3]) < 0) {
-                throw new IllegalStateException("no such one: " + i / 4);
-            }
-        }
-        return x;
-    }
-
-    private static int tell(SeenFromBehind x, String text) {
-        for (int i = 0; i < text.length(); i++) {
-            x.feed(text.charAt(i));
-        }
-        return x.hill();
-    }
-
-    private static void told(Due d, SeenFromBehind x, String text, int want) {
-        d.is("hill() of \"" + text + "\"", tell(x, text), want);
-    }
-
-    private static void tellRow(SeenFromBehind x, int... numbers) {
-        x.clear();
-        for (int v : numbers) {
-            x.row(v);
-        }
-    }
-
-    /** How many refusals there were: -1, -2, -3, -4, -5, -6. */
-    private static void refused(Due d, SeenFromBehind x, int... want) {
-        for (int i = 0; i < 6; i++) {
-            d.is("count(" + (11 + i) + ")", x.count(11 + i), want[i]);
-        }
-    }
-
-    private static void stateIs(Due d, SeenFromBehind x, int person, int cell, int faces, int starts) {
-        d.is("personOf(" + person + ", 2)", x.personOf(person, 2), cell);
-        d.is("personOf(" + person + ", 3)", x.personOf(person, 3), faces);
-        d.is("personOf(" + person + ", 4)", x.personOf(person, 4), starts);
-    }
-
-    /** One who looks ahead at the next one's back, and is looked at in the lens: 0 at 14, 1 behind him at 20. */
-    private static SeenFromBehind twoViewers() {
-        return hillOf(VIEWER, 0, 14, UP, VIEWER, 0, 20, UP);
-    }
-
-    /** A kind at 14 that looks up, and a GRINDER behind him, who sees nobody. */
-    private static SeenFromBehind withGrinderBehind(int kind) {
-        return hillOf(kind, 0, 14, UP, GRINDER, 0, 20, RIGHT);
-    }
-
-    /** A MASTER who turns each night, between two who do nothing and see nobody. */
-    private static SeenFromBehind masterBetween() {
-        return hillOf(MASTER, 0, 14, UP, GRINDER, 0, 8, RIGHT, GRINDER, 0, 20, RIGHT);
-    }
-
-    /** A BORE who steps back for two nights, till he stands before the other one. */
-    private static SeenFromBehind steppingBore() {
-        return hillOf(BORE, 0, 8, UP, GRINDER, 0, 26, RIGHT);
     }
 
     private static void newObject(Due d) {
@@ -1147,17 +1070,6 @@ public final class PromisesTest {
         d.is("clear()", x.clear(), 0);
         d.is("count(6)", x.count(6), 0);
         d.is("row(7)", x.row(7), 1);
-    }
-
-    /** The draws below 4 from a seed on, reckoned with longs. */
-    private static int[] draws(int z, int many) {
-        int[] draws = new int[many];
-        long seed = z;
-        for (int i = 0; i < many; i++) {
-            seed = seed * 1103515245L + 12345L & 0xffffffffL;
-            draws[i] = (int) ((seed & 0x7fffffffL) / 65536 % 4);
-        }
-        return draws;
     }
 
     private static void lots(Due d) {
