@@ -736,6 +736,14 @@ final class BoundariesOfAll extends Hills {
                 refused(d, x, i, i, i, i, 0, i);
             }
         });
+        s.test(43, "nothing changes but how many there were", "500 refused calls", d -> {
+            SeenFromBehind x = twoViewers();
+            for (int i = 1; i <= 500; i++) {
+                x.turns(0, 4);
+                d.is("count(11)", i % 100 == 0 ? x.count(11) : i, i);
+            }
+            stateIs(d, x, 0, 14, UP, 0);
+        });
         s.test(43, "-9 for another what.", "-1, 8, 9, 10, 17, the least, the greatest number: not counted", d -> {
             for (int what : new int[] {MIN, -9, -1, 8, 9, 10, 17, 18, MAX}) {
                 onlyAsks(d, Hills::lived, "count(" + what + ")", x -> x.count(what));

@@ -155,6 +155,13 @@ final class BoundariesOfPeople extends Hills {
             told(d, two(), full.substring(0, 92) + "p000", -1096);
             told(d, two(), full.substring(0, 95) + "0", -1095);
         });
+        s.test(3, "-1000 less the place", "the first place, the last one, the end of 96", d -> {
+            told(d, two(), "x", -1000);
+            told(d, two(), "f00;".repeat(23) + "x00;", -1092);
+            told(d, two(), "f00;".repeat(23) + "f00x", -1095);
+            told(d, two(), "f00;".repeat(23) + "f000", -1095);
+            told(d, two(), "f00;".repeat(22) + "p0000000", -1094);
+        });
         s.test(3, "else kind 2", "a FAULT of kind 1 behind one of kind 2 is told", d -> {
             told(d, two(), "f90;x", -1004);
             told(d, two(), "f90;f0", -1006);
@@ -276,6 +283,11 @@ final class BoundariesOfPeople extends Hills {
             told(d, two(), "f00;f90;c014;", -2004);
             told(d, two(), "f00;".repeat(23) + "f90;", -2092);
             told(d, two(), "f00;".repeat(22) + "f90;f90;", -2088);
+        });
+        s.test(3, "-2000 less the place", "the first place, the last one that a STATEMENT can have", d -> {
+            told(d, two(), "n00;", -2000);
+            told(d, two(), "f00;n00;", -2004);
+            told(d, two(), "f00;".repeat(23) + "n00;", -2092);
         });
         s.test(3, "behind all ahead of it in the text", "the nights ahead of it have gone by", d -> {
             // The BORE steps back from 8 to 14 in the first of them, so that 8 is free and 14 is not.
@@ -399,6 +411,15 @@ final class BoundariesOfPeople extends Hills {
                 d.is("how many", x.count(0), i + 1);
                 stateIs(d, x, i, 35 - i, i % 4, 0);
             }
+        });
+        s.test(5, "PEOPLE 0 .. 5 as they come (6 at most)", "one refused takes no number", d -> {
+            SeenFromBehind x = new SeenFromBehind();
+            for (int i = 0; i < 6; i++) {
+                d.is("refused", x.person(0, 10, i, 0), -6);
+                d.is("one more", x.person(0, 9, i, 0), i);
+            }
+            d.is("the seventh", x.person(0, 9, 6, 0), -6);
+            d.is("count(0)", x.count(0), 6);
         });
         s.test(5, "-2;", "KIND -1, 0, 5, 6", d -> {
             refuses(d, Hills::lived, "person(-1, 0, 0, 0)", x -> x.person(-1, 0, 0, 0), -2);
@@ -696,6 +717,25 @@ final class BoundariesOfPeople extends Hills {
                 x.person(GRINDER, 0, cellFrom(cell, way, 2), (way + 1) % 4);
                 oneNight(d, x, cellFrom(cell, way, 1), way);
             }
+        });
+        s.test(8, "a CELL (no two in one)", "two who step to the same CELL", d -> {
+            // Both EDGES would step to 14; the first one is there when the second one looks.
+            SeenFromBehind x = hillOf(EDGE, 0, 13, RIGHT, EDGE, 0, 15, LEFT, GRINDER, 0, 12, UP, GRINDER, 0, 16, UP);
+            d.is("both start", x.nights(1), 2);
+            stateIs(d, x, 0, 14, RIGHT, 1);
+            stateIs(d, x, 1, 15, LEFT, 1);
+            x = hillOf(BORE, 0, 13, LEFT, BORE, 0, 15, RIGHT);
+            d.is("both start, back to back", x.nights(1), 2);
+            stateIs(d, x, 0, 14, LEFT, 1);
+            stateIs(d, x, 1, 15, RIGHT, 1);
+        });
+        s.test(8, "then PEOPLE by numbers", "who is first turns away, or is looked at still", d -> {
+            SeenFromBehind x = hillOf(GIRL, 0, 20, UP, VIEWER, 0, 14, UP, GRINDER, 0, 26, RIGHT);
+            d.is("the GIRL turns away first", x.nights(1), 2);
+            stateIs(d, x, 1, 14, UP, 1);
+            x = hillOf(VIEWER, 0, 14, UP, GIRL, 0, 20, UP, GRINDER, 0, 26, RIGHT);
+            d.is("the VIEWER is WATCHED still", x.nights(1), 2);
+            stateIs(d, x, 0, 14, DOWN, 1);
         });
         s.test(8, "who has somebody IN THE LENS", "one beyond the DEPTH, none behind: nothing", d -> {
             int[] depths = {2, 2, 3, 2, 6, 1};

@@ -752,6 +752,16 @@ final class BoundariesOfSight extends Hills {
                 d.is("the other way round", hillOf(VIEWER, 0, 14, faces, VIEWER, 0, 20, faces).two(1, 0), RIGHT);
             }
         });
+        s.test(24, "by which neither has better by another choice alone; -9.", "each answer is such a pair; -9 can't come", d -> {
+            // The FACES that sees farthest sees all of his CELLS that are seen at all, so there is always such a pair.
+            for (int cell = 0; cell < 36; cell++) {
+                for (int kind = 0; kind <= 5 && cell != 14; kind++) {
+                    SeenFromBehind x = hillOf(kind, 3, 14, UP, GRINDER, 0, cell, UP);
+                    int pair = x.two(0, 1);
+                    d.holds("two(0, 1) answered " + pair, pair >= 0 && pair / 10 <= 3 && pair % 10 <= 4);
+                }
+            }
+        });
         s.test(24, "-1 either (one twice).", "each one: -1, 0, the last, the next", d -> {
             onePerson(d, "two(.., 1 or 0)", p -> x -> x.two(p, p == 1 ? 0 : 1));
             onePerson(d, "two(1 or 0, ..)", p -> x -> x.two(p == 1 ? 0 : 1, p));
@@ -808,6 +818,14 @@ final class BoundariesOfSight extends Hills {
             likely(d, x, DOWN, 1, 5, 4, 5);
             likely(d, x, DOWN, 8, 5, 4, 5);
             likely(d, x, UP, 8, 5, 1, 5);
+        });
+        s.test(25, "Of longs 4000000000000000000 less them (-1 as 4000000000000000001)", "each refusal of slept", d -> {
+            SeenFromBehind x = withGrinderBehind(GIRL);
+            d.is("-1", x.slept(2, 0, 1, 2, 0), 4000000000000000001L);
+            d.is("-4", x.slept(0, 0, -1, 2, 0), 4000000000000000004L);
+            d.is("-6", x.slept(0, 0, 9, 2, 0), 4000000000000000006L);
+            d.is("-2", x.slept(0, 0, 1, 2, 2), 4000000000000000002L);
+            refused(d, x, 1, 1, 0, 1, 0, 1);
         });
         s.test(25, "-1 (one, FACES);", "one -1, 0, the last, the next", d -> {
             for (int one : new int[] {MIN, -1, 3, MAX}) {
