@@ -259,12 +259,16 @@ final class BoundariesOfAll extends Hills {
                 meetsIs(d, hillOf(GRINDER, 0, 6 * row + 5, UP, GRINDER, 0, 6 * row + 6, UP), 0, 1, -9);
             }
         });
-        s.test(33, "MEETS: the first n (0 .. 60)", "0, 1, 2, 10, never", d -> {
+        s.test(33, "MEETS: the first n (0 .. 60)", "0, 1, 2, 18, never", d -> {
             meetsIs(d, twoViewers(), 0, 1, 0);
             meetsIs(d, hillOf(BORE, 0, 8, UP, GRINDER, 0, 20, RIGHT), 0, 1, 1);
             meetsIs(d, steppingBore(), 0, 1, 2);
-            meetsIs(d, hillOf(BORE, 8, 28, DOWN, GRINDER, 0, 5, RIGHT, VIEWER, 3, 21, DOWN, EDGE, 9, 19, DOWN, BORE, 8, 6, LEFT,
-                BORE, 8, 35, DOWN), 4, 0, 10);
+            SeenFromBehind x = longRestless();
+            meetsIs(d, x, 0, 1, 18);
+            x.nights(17);
+            meetsIs(d, x, 0, 1, 1);
+            x.nights(1);
+            meetsIs(d, x, 0, 1, 0);
             meetsIs(d, hillOf(MASTER, 0, 14, UP, GRINDER, 0, 8, RIGHT, GRINDER, 0, 20, RIGHT, GRINDER, 0, 35, UP), 0, 3, -9);
         });
         s.test(33, "-1 either (one twice).", "each one: -1, 0, the last, the next", d -> {
@@ -303,6 +307,18 @@ final class BoundariesOfAll extends Hills {
                 SeenFromBehind x = hillOf(GRINDER, 0, 14, UP, GRINDER, 0, corner, UP, VIEWER, 0, 15, LEFT);
                 d.is("corner " + corner, x.leave(0, 1), 4);
                 d.is("he at the corner", x.leave(1, 0), 0);
+            }
+        });
+        s.test(34, "were another one not there", "he who is not there WATCHES nobody, wherever he was, whichever way he FACES", d -> {
+            for (int cell = 0; cell < 36; cell++) {
+                for (int from = 0; from < 36; from++) {
+                    if (from != cell) {
+                        SeenFromBehind x = hillOf(GRINDER, 0, cell, UP, MASTER, 0, from, from % 4);
+                        d.is("at " + cell + ", he at " + from, x.leave(0, 1), 0);
+                        x.turns(1, (from / 6 + 1) % 4);
+                        d.is("at " + cell + ", he at " + from + ", turned", x.leave(0, 1), 0);
+                    }
+                }
             }
         });
         s.test(34, "-1 either (one twice).", "each one: -1, 0, the last, the next", d -> {
@@ -617,6 +633,10 @@ final class BoundariesOfAll extends Hills {
         });
     }
 
+    /** Six close together, who see one another ahead and in the lens. */
+    private static final int[] CROWD = {GRINDER, 9, 14, DOWN, MASTER, 8, 8, DOWN, MASTER, 8, 13, RIGHT, GIRL, 8, 20, UP,
+        EDGE, 9, 15, RIGHT, VIEWER, 8, 26, UP};
+
     private static void restore(Sentences s) {
         s.test(42, "It is RESTORED: NIGHT.", "once, twice, behind nights and one more", d -> {
             SeenFromBehind x = after(masterBetween(), 5);
@@ -653,6 +673,22 @@ final class BoundariesOfAll extends Hills {
                 d.is("number " + i, got[i], want[i]);
             }
             d.is("once more", x.restore(), 2);
+        });
+        s.test(42, "It is RESTORED", "those who came behind it are no more, in no answer", d -> {
+            for (int many = 0; many <= 5; many++) {
+                SeenFromBehind x = hillOf(Arrays.copyOf(CROWD, 4 * many));
+                String before = answersOf(x);
+                x.image();
+                for (int i = 4 * many; i < CROWD.length; i += 4) {
+                    x.person(CROWD[i], CROWD[i + 1], CROWD[i + 2], CROWD[i + 3]);
+                }
+                d.holds("all " + many + " and more", !answersOf(x).equals(before));
+                x.nights(3);
+                x.restore();
+                d.is("count(0)", x.count(0), many);
+                d.is("personOf(" + many + ", 0)", x.personOf(many, 0), -1);
+                d.holds("with " + many + ": " + answersOf(x) + ", before: " + before, answersOf(x).equals(before));
+            }
         });
         s.test(42, "restore(), where they are not refused, leave none", "1, 8 changes, one refused", d -> {
             for (int changes : new int[] {1, 8}) {
@@ -743,6 +779,29 @@ final class BoundariesOfAll extends Hills {
                 d.is("count(11)", i % 100 == 0 ? x.count(11) : i, i);
             }
             stateIs(d, x, 0, 14, UP, 0);
+        });
+        s.test(43, "11 .. 16 REFUSALS -1 .. -6", "-9 is none of them", d -> {
+            SeenFromBehind x = new SeenFromBehind();
+            long[] ofNobody = {x.still(), x.deepest(), x.post(0), x.busiest(0), x.busiest(1), x.nearest(0), x.nearest(1), x.longest(),
+                x.judge(), x.count(8)};
+            for (int i = 1; i < ofNobody.length; i++) {
+                d.is("answer " + i, ofNobody[i], -9);
+            }
+            refused(d, x, 0, 0, 0, 0, 0, 0);
+            x = hillOf(GRINDER, 0, 0, UP, GRINDER, 0, 35, UP);
+            long[] ofTwo = {x.behind(0, 1, 3), x.behind(0, 1, 4), x.first(0, 0), x.first(0, 1), x.safe(0, 1), x.meets(0, 1)};
+            for (long answer : ofTwo) {
+                d.is("an answer of two", answer, -9);
+            }
+            refused(d, x, 0, 0, 0, 0, 0, 0);
+            x = lookedAt(4);
+            x.stands(0, 35);
+            x.person(VIEWER, 0, 14, UP);
+            d.is("turnAll()", x.turnAll(), -9);
+            refused(d, x, 0, 0, 0, 0, 0, 0);
+            x = masterBetween();
+            d.is("still()", x.still(), -9);
+            refused(d, x, 0, 0, 0, 0, 0, 0);
         });
         s.test(43, "-9 for another what.", "-1, 8, 9, 10, 17, the least, the greatest number: not counted", d -> {
             for (int what : new int[] {MIN, -9, -1, 8, 9, 10, 17, 18, MAX}) {

@@ -421,6 +421,19 @@ final class BoundariesOfPeople extends Hills {
             d.is("the seventh", x.person(0, 9, 6, 0), -6);
             d.is("count(0)", x.count(0), 6);
         });
+        s.test(5, "0 .. 99; 0 at first", "STARTS of one whose number another one had", d -> {
+            SeenFromBehind x = hillOf(GRINDER, 0, 20, RIGHT);
+            x.image();
+            x.person(GRINDER, 9, 14, UP);
+            x.nights(60);
+            stateIs(d, x, 1, 14, UP, 60);
+            x.restore();
+            d.is("one more", x.person(GIRL, 1, 8, LEFT), 1);
+            stateIs(d, x, 1, 8, LEFT, 0);
+            d.is("KIND", x.personOf(1, 0), GIRL);
+            d.is("FIGURE", x.personOf(1, 1), 1);
+            d.is("all STARTS", x.count(2), 0);
+        });
         s.test(5, "-2;", "KIND -1, 0, 5, 6", d -> {
             refuses(d, Hills::lived, "person(-1, 0, 0, 0)", x -> x.person(-1, 0, 0, 0), -2);
             d.is("person(0, ..)", lived().person(0, 0, 0, 0), 3);
@@ -706,6 +719,31 @@ final class BoundariesOfPeople extends Hills {
                     cellFrom(rims[way], opposite(way), 1), way);
             }
         });
+        s.test(8, "EDGE steps a CELL ahead, if that is on the hill and nobody is there", "from every cell with one behind it", d -> {
+            for (int cell = 0; cell < 36; cell++) {
+                for (int way = 0; way < 4; way++) {
+                    if (isBeside(cell, opposite(way))) {
+                        oneNight(d, withBehind(EDGE, cell, way, 1), isBeside(cell, way) ? cellFrom(cell, way, 1) : cell, way);
+                    }
+                }
+            }
+        });
+        s.test(8, "BORE steps a CELL back (the other way than he FACES), if that is on the hill and nobody is there", "from every cell", d -> {
+            for (int cell = 0; cell < 36; cell++) {
+                for (int way = 0; way < 4; way++) {
+                    int back = opposite(way);
+                    if (!isBeside(cell, back)) {
+                        SeenFromBehind x = hillOf(BORE, 9, cell, way, GRINDER, 0, cell == 14 ? 15 : 14, UP);
+                        x.nights(1);
+                        stateIs(d, x, 0, cell, way, 0);
+                    } else if (isBeside(cellFrom(cell, back, 1), back)) {
+                        oneNight(d, withBehind(BORE, cell, way, 2), cellFrom(cell, back, 1), way);
+                    } else {
+                        oneNight(d, withBehind(BORE, cell, way, 1), cell, way);
+                    }
+                }
+            }
+        });
         s.test(8, "EDGE steps a CELL ahead, if that is on the hill and nobody is there", "somebody 1, 2 ahead", d -> {
             for (int way = 0; way < 4; way++) {
                 int[] cells = {20, 14, 14, 15};
@@ -754,6 +792,20 @@ final class BoundariesOfPeople extends Hills {
         return hillOf(kind, 0, cell, way, GRINDER, 0, cellFrom(cell, opposite(way), far), (way + 1) % 4);
     }
 
+    /** Whether a cell of the hill is next to another one on that side. */
+    private static boolean isBeside(int cell, int way) {
+        switch (way) {
+            case UP:
+                return cell / 6 > 0;
+            case RIGHT:
+                return cell % 6 < 5;
+            case DOWN:
+                return cell / 6 < 5;
+            default:
+                return cell % 6 > 0;
+        }
+    }
+
     /** Person 0 alone starts, and then is there and faces so. */
     private static void oneNight(Due d, SeenFromBehind x, int cell, int faces) {
         d.is("nights(1)", x.nights(1), 1);
@@ -780,6 +832,42 @@ final class BoundariesOfPeople extends Hills {
                 d.is("how he faced " + many + " ago", x.personOf(0, 3), (changes - many) % 4);
                 d.is("no more", x.back(), -3);
             }
+        });
+        s.test(9, "8 at most (older ones no more", "7, 8, 9, 17 steps, and so many nights", d -> {
+            for (int changes : new int[] {7, 8, 9, 17}) {
+                int many = Math.min(8, changes);
+                SeenFromBehind steps = hillOf(GIRL, 0, 0, UP);
+                SeenFromBehind nights = masterBetween();
+                for (int i = 1; i <= changes; i++) {
+                    steps.stands(0, i);
+                    nights.nights(1);
+                }
+                for (int left = many - 1; left >= 0; left--) {
+                    d.is("back() to a step", steps.back(), left);
+                    d.is("back() to a night", nights.back(), left);
+                }
+                stateIs(d, steps, 0, changes - many, UP, 0);
+                d.is("NIGHT", nights.count(1), changes - many);
+                stateIs(d, nights, 0, 14, (changes - many) % 2 == 0 ? UP : DOWN, changes - many);
+                d.is("no more steps", steps.back(), -3);
+                d.is("no more nights", nights.back(), -3);
+            }
+        });
+        s.test(9, "What turns(), stands(), nights() changed can be TAKEN BACK", "60 NIGHTS at once, up to NIGHT 999, STARTS at 99", d -> {
+            SeenFromBehind x = after(masterBetween(), 939);
+            stateIs(d, x, 0, 14, DOWN, 99);
+            x.nights(60);
+            d.is("NIGHT", x.count(1), 999);
+            d.is("refused", x.nights(1), -6);
+            x.back();
+            d.is("NIGHT", x.count(1), 939);
+            stateIs(d, x, 0, 14, DOWN, 99);
+            d.is("they can go by again", x.nights(60), 99);
+            x = masterBetween();
+            x.nights(60);
+            x.back();
+            stateIs(d, x, 0, 14, UP, 0);
+            d.is("all STARTS", x.count(2), 0);
         });
         s.test(9, "-3 none.", "none at first, none behind the last", d -> {
             d.is("a new object", new SeenFromBehind().back(), -3);

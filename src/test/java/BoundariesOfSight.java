@@ -186,38 +186,46 @@ final class BoundariesOfSight extends Hills {
         });
     }
 
-    /** Of all hills that a long search met, one of those on which it takes longest till something comes. */
-    private static SeenFromBehind longShown() {
-        return hillOf(BORE, 8, 28, DOWN, GRINDER, 0, 5, RIGHT, VIEWER, 3, 21, DOWN, EDGE, 9, 19, DOWN, BORE, 8, 6, LEFT, BORE, 8, 35, DOWN);
+    /** Of all hills that a long search met, those on which it takes longest till one is WATCHED, has somebody IN THE LENS. */
+    private static SeenFromBehind longWatched() {
+        return hillOf(GRINDER, 1, 35, DOWN, BORE, 4, 23, RIGHT, BORE, 4, 3, UP, BORE, 4, 24, LEFT, BORE, 9, 4, UP, BORE, 8, 30, LEFT);
     }
 
-    private static SeenFromBehind longWatched() {
-        return hillOf(GIRL, 2, 32, DOWN, BORE, 4, 24, LEFT, EDGE, 8, 8, DOWN, VIEWER, 8, 34, DOWN, BORE, 8, 4, UP, BORE, 5, 21, UP);
+    private static SeenFromBehind longShown() {
+        return hillOf(BORE, 6, 11, RIGHT, BORE, 8, 31, DOWN, BORE, 9, 5, RIGHT, EDGE, 8, 18, UP, BORE, 4, 30, DOWN, BORE, 4, 32, DOWN);
     }
 
     private static void first(Sentences s) {
-        s.test(12, "WATCHED: the first n (0 .. 60) behind which somebody WATCHES one; -9;", "0, 1, 8, never", d -> {
+        s.test(12, "WATCHED: the first n (0 .. 60) behind which somebody WATCHES one; -9;", "0, 1, 15, never", d -> {
             d.is("now", twoViewers().first(0, 0), 0);
             d.is("when the MASTER has turned", hillOf(GRINDER, 0, 8, RIGHT, MASTER, 0, 14, DOWN, GRINDER, 0, 13, UP).first(0, 0), 1);
             SeenFromBehind x = longWatched();
-            for (int n = 0; n < 8; n++) {
-                d.is("behind " + n, x.behind(2, n, 5), 0);
+            for (int n = 0; n < 15; n++) {
+                d.is("behind " + n, x.behind(1, n, 5), 0);
             }
-            d.holds("behind 8 somebody does", x.behind(2, 8, 5) != 0);
-            d.is("late", x.first(2, 0), 8);
+            d.holds("behind 15 somebody does", x.behind(1, 15, 5) != 0);
+            d.is("late", x.first(1, 0), 15);
+            x.nights(14);
+            d.is("14 NIGHTS later", x.first(1, 0), 1);
+            x.nights(1);
+            d.is("15 NIGHTS later", x.first(1, 0), 0);
             d.is("never, all still", hillOf(VIEWER, 0, 0, UP).first(0, 0), -9);
             d.is("never, one turns for ever", hillOf(MASTER, 0, 14, UP, GRINDER, 0, 8, RIGHT, GRINDER, 0, 20, RIGHT, GRINDER, 0, 35, UP)
                 .first(3, 0), -9);
         });
-        s.test(12, "SHOWN: the first behind which somebody is IN THE LENS; -9.", "0, 1, 8, never", d -> {
+        s.test(12, "SHOWN: the first behind which somebody is IN THE LENS; -9.", "0, 1, 15, never", d -> {
             d.is("now", twoViewers().first(0, 1), 0);
             d.is("when the BORE has stepped back once", hillOf(GRINDER, 9, 12, LEFT, BORE, 0, 8, UP, GRINDER, 0, 26, RIGHT).first(0, 1), 1);
             SeenFromBehind x = longShown();
-            for (int n = 0; n < 8; n++) {
-                d.is("behind " + n, x.behind(0, n, 4), -9);
+            for (int n = 0; n < 15; n++) {
+                d.is("behind " + n, x.behind(5, n, 4), -9);
             }
-            d.holds("behind 8 somebody is", x.behind(0, 8, 4) != -9);
-            d.is("late", x.first(0, 1), 8);
+            d.holds("behind 15 somebody is", x.behind(5, 15, 4) != -9);
+            d.is("late", x.first(5, 1), 15);
+            x.nights(14);
+            d.is("14 NIGHTS later", x.first(5, 1), 1);
+            x.nights(1);
+            d.is("15 NIGHTS later", x.first(5, 1), 0);
             d.is("never, all still", hillOf(VIEWER, 0, 0, UP).first(0, 1), -9);
             d.is("never, one turns for ever", hillOf(MASTER, 0, 14, UP, GRINDER, 0, 8, RIGHT, GRINDER, 0, 20, RIGHT, GRINDER, 0, 35, UP)
                 .first(3, 1), -9);
@@ -245,15 +253,19 @@ final class BoundariesOfSight extends Hills {
     }
 
     private static void still(Sentences s) {
-        s.test(13, "STILL: the first n (0 .. 60) behind which a NIGHT moves and turns nobody; -9.", "0, 1, 2, 10, never", d -> {
+        s.test(13, "STILL: the first n (0 .. 60) behind which a NIGHT moves and turns nobody; -9.", "0, 1, 2, 18, never", d -> {
             d.is("nobody", new SeenFromBehind().still(), 0);
             d.is("one alone", hillOf(GIRL, 0, 14, UP).still(), 0);
             d.is("one turns once", twoViewers().still(), 1);
             d.is("one steps twice", steppingBore().still(), 2);
-            SeenFromBehind x = longShown();
-            d.is("late", x.still(), 10);
-            d.holds("the 10th NIGHT moves or turns", !hillIn(x, 9).equals(hillIn(x, 10)));
-            d.is("the 11th does not", hillIn(x, 10).equals(hillIn(x, 11)) ? 1 : 0, 1);
+            SeenFromBehind x = longRestless();
+            d.is("late", x.still(), 18);
+            d.holds("the 18th NIGHT moves or turns", !hillIn(x, 17).equals(hillIn(x, 18)));
+            d.holds("the 19th does not", hillIn(x, 18).equals(hillIn(x, 19)));
+            x.nights(17);
+            d.is("17 NIGHTS later", x.still(), 1);
+            x.nights(1);
+            d.is("18 NIGHTS later", x.still(), 0);
             d.is("one turns for ever", masterBetween().still(), -9);
         });
         s.test(13, "moves and turns nobody", "one who starts and does nothing; a VIEWER, a BORE, an EDGE who can't", d -> {
@@ -697,6 +709,24 @@ final class BoundariesOfSight extends Hills {
             }
             d.is("all taken", x.bestStep(0), 4);
         });
+        s.test(23, "free, on the hill", "at each cell with all cells beside it taken, all but one", d -> {
+            for (int cell = 0; cell < 36; cell++) {
+                for (int open = 0; open <= 4; open++) {
+                    SeenFromBehind x = hillOf(GRINDER, 0, cell, UP);
+                    int want = 4;
+                    for (int way = 0; way < 4; way++) {
+                        int beside = cellFrom(cell, way, 1);
+                        boolean on = way % 2 == 0 ? beside >= 0 && beside < 36 : beside >= 0 && beside / 6 == cell / 6;
+                        if (on && way == open) {
+                            want = open;
+                        } else if (on) {
+                            x.person(GRINDER, 0, beside, UP);
+                        }
+                    }
+                    d.is("at " + cell + ", open " + open, x.bestStep(0), want);
+                }
+            }
+        });
         s.test(23, "at which fewest WATCH him, of several the least (staying last)", "staying as good, 1 better, 1 worse", d -> {
             SeenFromBehind x = hillOf(GRINDER, 0, 0, UP, VIEWER, 0, 7, UP, VIEWER, 0, 18, UP);
             d.is("1 everywhere", x.bestStep(0), RIGHT);
@@ -744,6 +774,25 @@ final class BoundariesOfSight extends Hills {
             for (int[] w : want) {
                 SeenFromBehind x = hillOf(w[0], w[1], w[2], UP, GRINDER, 0, 0, UP, GRINDER, 0, 6, UP);
                 d.is("KIND " + w[0] + ", FIGURE " + w[1] + ", at " + w[2], x.two(0, 1), w[3]);
+            }
+        });
+        s.test(24, "neither has better by another choice alone", "he who sees him there, but not one cell farther", d -> {
+            // A BORE with FIGURE 0 sees 1 ahead and 3 behind: looking up he has the other one at 8, who steps up then, to 2.
+            d.is("looking down he has both", hillOf(BORE, 0, 14, UP, GRINDER, 0, 8, UP, GRINDER, 0, 7, UP, GRINDER, 0, 9, UP).two(0, 1), 20);
+            d.is("up is taken", hillOf(BORE, 0, 14, UP, GRINDER, 0, 8, UP, GRINDER, 0, 7, UP, GRINDER, 0, 9, UP, GRINDER, 0, 2, UP).two(0, 1), 4);
+            // A VIEWER sees 3 ahead and 2 behind: by RIGHT he has 2 away, and 3 away, too; by LEFT but the nearer one.
+            d.is("to the left", hillOf(VIEWER, 0, 12, UP, GRINDER, 0, 14, UP, GRINDER, 0, 8, UP, GRINDER, 0, 20, UP).two(0, 1), 11);
+            d.is("one farther", hillOf(VIEWER, 0, 12, UP, GRINDER, 0, 15, UP, GRINDER, 0, 9, UP, GRINDER, 0, 21, UP).two(0, 1), 1);
+        });
+        s.test(24, "the first pair (10 the first's and the other's)", "beside him on each side, free to step aside, or but to one side", d -> {
+            int[] want = {RIGHT, UP, RIGHT, UP};
+            int[] wantIfTaken = {LEFT, DOWN, LEFT, DOWN};
+            for (int way = 0; way < 4; way++) {
+                int cell = cellFrom(14, way, 1);
+                SeenFromBehind x = hillOf(VIEWER, 0, 14, UP, GRINDER, 0, cell, UP);
+                d.is("free, way " + way, x.two(0, 1), want[way]);
+                x.person(GRINDER, 0, cellFrom(cell, want[way], 1), UP);
+                d.is("one side taken, way " + way, x.two(0, 1), wantIfTaken[way]);
             }
         });
         s.test(24, "the first pair (10 the first's and the other's)", "how they stand now does not matter to FACES", d -> {

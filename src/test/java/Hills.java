@@ -127,6 +127,14 @@ abstract class Hills {
         return hillOf(BORE, 0, 8, UP, GRINDER, 0, 26, RIGHT);
     }
 
+    /**
+     * Of all hills that a long search met, the one on which it takes longest till all stands still, and till two meet. None
+     * took near to 60 NIGHTS: steps soon come to an end, and what turns then turns for ever or for some nights only.
+     */
+    static SeenFromBehind longRestless() {
+        return hillOf(BORE, 6, 3, UP, BORE, 4, 24, LEFT, BORE, 9, 4, UP, BORE, 7, 5, UP, BORE, 9, 30, LEFT, EDGE, 0, 11, DOWN);
+    }
+
     /** The draws below 4 from a seed on, reckoned with longs. */
     static int[] draws(int z, int many) {
         int[] draws = new int[many];
@@ -236,6 +244,45 @@ abstract class Hills {
         text.append(" hill ").append(x.hill());
         tellPeople(text, x, 0);
         return text.toString();
+    }
+
+    /** All that can be asked of an object without changing it. */
+    static String answersOf(SeenFromBehind x) {
+        StringBuilder text = new StringBuilder();
+        for (int what = 0; what <= 6; what++) {
+            text.append(' ').append(x.count(what));
+        }
+        for (int i = 0; i < 2; i++) {
+            text.append(' ').append(x.busiest(i)).append(' ').append(x.twos(i)).append(' ').append(x.nearest(i));
+            text.append(' ').append(x.lots(3, 7, i)).append(' ').append(x.allStarts(i)).append(' ').append(x.quiet(i));
+        }
+        text.append(' ').append(x.unseen()).append(' ').append(x.deepest()).append(' ').append(x.turnAll());
+        text.append(' ').append(x.lines()).append(' ').append(x.hidden()).append(' ').append(x.longest());
+        text.append(' ').append(x.still());
+        for (int kind = 0; kind <= 5; kind++) {
+            text.append(' ').append(x.post(kind));
+        }
+        for (int p = 0; p < x.count(0); p++) {
+            tellOne(text, x, p);
+        }
+        return text.toString();
+    }
+
+    private static void tellOne(StringBuilder text, SeenFromBehind x, int p) {
+        for (int what = 0; what <= 5; what++) {
+            text.append(' ').append(x.personOf(p, what)).append(' ').append(x.behind(p, 0, what)).append(' ').append(x.behind(p, 2, what));
+        }
+        for (int what = 0; what <= 1; what++) {
+            text.append(' ').append(x.first(p, what)).append(' ').append(x.safe(p, what)).append(' ').append(x.alone(p, what));
+            text.append(' ').append(x.most(p, what)).append(' ').append(x.walks(p, 4, what)).append(' ').append(x.chain(p, what));
+            text.append(' ').append(x.slept(p, UP, 3, 3, what)).append(' ').append(x.knows(p, what + 1));
+        }
+        text.append(' ').append(x.bestStep(p));
+        for (int other = 0; other < x.count(0); other++) {
+            if (other != p) {
+                text.append(' ').append(x.two(p, other)).append(' ').append(x.meets(p, other)).append(' ').append(x.leave(p, other));
+            }
+        }
     }
 
     private static void tellPeople(StringBuilder text, SeenFromBehind x, int firstWhat) {
