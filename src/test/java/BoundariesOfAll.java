@@ -690,6 +690,19 @@ final class BoundariesOfAll extends Hills {
                 d.holds("with " + many + ": " + answersOf(x) + ", before: " + before, answersOf(x).equals(before));
             }
         });
+        s.test(42, "It is RESTORED", "one who is no more starts and turns no more", d -> {
+            SeenFromBehind x = hillOf(GRINDER, 0, 14, RIGHT, GRINDER, 0, 2, RIGHT);
+            x.image();
+            x.person(MASTER, 0, 8, UP);
+            d.is("still()", x.still(), -9);
+            d.is("quiet(60)", x.quiet(60), 0);
+            d.is("allStarts(60)", x.allStarts(60), 60);
+            x.restore();
+            d.is("still()", x.still(), 0);
+            d.is("quiet(60)", x.quiet(60), 1);
+            d.is("allStarts(60)", x.allStarts(60), 0);
+            d.is("nights(60)", x.nights(60), 0);
+        });
         s.test(42, "restore(), where they are not refused, leave none", "1, 8 changes, one refused", d -> {
             for (int changes : new int[] {1, 8}) {
                 SeenFromBehind x = hillOf(GIRL, 0, 14, UP);
