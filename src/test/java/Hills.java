@@ -1,4 +1,5 @@
 import java.util.function.IntFunction;
+import java.util.function.IntToLongFunction;
 import java.util.function.Supplier;
 import java.util.function.ToLongFunction;
 
@@ -133,6 +134,35 @@ abstract class Hills {
      */
     static SeenFromBehind longRestless() {
         return hillOf(BORE, 6, 3, UP, BORE, 4, 24, LEFT, BORE, 9, 4, UP, BORE, 7, 5, UP, BORE, 9, 30, LEFT, EDGE, 0, 11, DOWN);
+    }
+
+    /** One of each KIND, by twos who stand back to back: 0 and 1, 2 and 3, 4 and 5. */
+    static SeenFromBehind eachKind() {
+        return hillOf(VIEWER, 0, 12, UP, GIRL, 0, 18, DOWN, BORE, 0, 8, UP, MASTER, 0, 20, DOWN, GRINDER, 0, 16, UP, EDGE, 0, 22, DOWN);
+    }
+
+    /** CELL, FACES, STARTS of each KIND, behind 0, 1, .. 4 NIGHTS, as the document's words have it. */
+    static final int[][][] EACH_KIND_BY_NIGHT = {
+        {{12, UP, 0}, {18, DOWN, 0}, {8, UP, 0}, {20, DOWN, 0}, {16, UP, 0}, {22, DOWN, 0}},
+        // All start. The VIEWER is not WATCHED; the GIRL turns; the BORE steps back, so that the MASTER sees him closer, and turns.
+        {{12, UP, 1}, {18, LEFT, 1}, {14, UP, 1}, {20, UP, 1}, {16, UP, 1}, {28, DOWN, 1}},
+        // The GIRL has the MASTER in the lens now. The BORE can't step. Nobody is behind the MASTER, nor close behind the EDGE.
+        {{12, UP, 2}, {18, UP, 2}, {14, UP, 2}, {20, UP, 1}, {16, UP, 2}, {28, DOWN, 1}},
+        // Now the GIRL WATCHES the VIEWER, and he turns.
+        {{12, DOWN, 3}, {18, UP, 2}, {14, UP, 3}, {20, UP, 1}, {16, UP, 3}, {28, DOWN, 1}},
+        {{12, DOWN, 3}, {18, UP, 2}, {14, UP, 4}, {20, UP, 1}, {16, UP, 4}, {28, DOWN, 1}},
+    };
+
+    /** The same, so many nights on. */
+    static SeenFromBehind eachKind(int nights) {
+        return after(eachKind(), nights);
+    }
+
+    /** Asks something of each of six. */
+    static void ofEach(Due d, String call, IntToLongFunction asked, long... want) {
+        for (int p = 0; p < want.length; p++) {
+            d.is(call + " of " + p, asked.applyAsLong(p), want[p]);
+        }
     }
 
     /** The draws below 4 from a seed on, reckoned with longs. */

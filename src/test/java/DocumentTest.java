@@ -1,14 +1,20 @@
 import java.io.IOException;
 import java.nio.file.Path;
 
-/** For each sentence of the document that names a boundary: on it, one below, one above. The argument is the document. */
-public final class BoundariesTest {
+/**
+ * The document, sentence by sentence: each whole one, and for each that names a boundary on it, one below, one above.
+ * The argument is the document.
+ */
+public final class DocumentTest {
 
-    private BoundariesTest() {
+    private DocumentTest() {
     }
 
     public static void main(String[] args) throws IOException {
         Sentences sentences = new Sentences(Path.of(args[0]));
+        WholeOfPeople.test(sentences);
+        WholeOfSight.test(sentences);
+        WholeOfAll.test(sentences);
         BoundariesOfPeople.test(sentences);
         BoundariesOfSight.test(sentences);
         BoundariesOfAll.test(sentences);
