@@ -118,6 +118,15 @@ abstract class Hills {
         return hillOf(kind, 0, 14, UP, GRINDER, 0, 20, RIGHT);
     }
 
+    /** So many who see nobody and do nothing, in the first row, for others to have the numbers behind theirs. */
+    static SeenFromBehind withIdle(int many) {
+        SeenFromBehind x = new SeenFromBehind();
+        for (int i = 0; i < many; i++) {
+            x.person(GRINDER, 0, i, DOWN);
+        }
+        return x;
+    }
+
     /** A MASTER who turns each night, between two who do nothing and see nobody. */
     static SeenFromBehind masterBetween() {
         return hillOf(MASTER, 0, 14, UP, GRINDER, 0, 8, RIGHT, GRINDER, 0, 20, RIGHT);

@@ -138,7 +138,9 @@ final class WholeOfAll extends Hills {
         d.is("quiet(1)", x.quiet(1), 0);
         d.is("quiet(60)", x.quiet(60), 0);
         SeenFromBehind girl = withGrinderBehind(GIRL);
-        d.is("before she turns", girl.quiet(1), 0);
+        for (int n = 1; n <= 60; n++) {
+            d.is("a START in the first of " + n, girl.quiet(n), 0);
+        }
         girl.nights(1);
         d.is("when she has turned", girl.quiet(60), 1);
     }
@@ -224,6 +226,9 @@ final class WholeOfAll extends Hills {
             d.is("what can be TAKEN BACK", x.count(7), n > 0 ? 1 : 0);
             refused(d, x, 0, 0, 0, 0, 0, 0);
         }
+        // Two who have the same one AHEAD, or IN THE LENS, are two.
+        d.is("two WATCH one", hillOf(GRINDER, 0, 14, UP, VIEWER, 0, 15, LEFT, VIEWER, 0, 8, DOWN).count(3), 2);
+        d.is("two have one in the lens", hillOf(GRINDER, 0, 14, UP, VIEWER, 0, 15, RIGHT, VIEWER, 0, 8, UP).count(4), 2);
     }
 
     private static void refusals(Due d) {

@@ -19,6 +19,9 @@ final class WholeOfPeople extends Hills {
             + " STARTS (1 more), and then: VIEWER turns round (FACES 2 more, modulo 4), if that one WATCHES him, else nothing; GIRL turns"
             + " right (FACES 1 more, modulo 4); BORE steps a CELL back (the other way than he FACES), if that is on the hill and nobody is"
             + " there; MASTER turns round; GRINDER nothing; EDGE steps a CELL ahead, if that is on the hill and nobody is there.");
+        s.whole(8, WholeOfPeople::nightsByNumber, "VIEWER turns round (FACES 2 more, modulo 4), if that one WATCHES him, else nothing; GIRL turns"
+            + " right (FACES 1 more, modulo 4); BORE steps a CELL back (the other way than he FACES), if that is on the hill and nobody is"
+            + " there; MASTER turns round; GRINDER nothing; EDGE steps a CELL ahead, if that is on the hill and nobody is there.");
         s.whole(8, WholeOfPeople::starts, "STARTS (how often he saw somebody in the lens by night, 0 .. 99; 0 at first). NIGHT (0 .. 999; 0 at"
             + " first).");
         s.whole(9, WholeOfPeople::back, "What turns(), stands(), nights() changed can be TAKEN BACK (each that is not refused counts, also if"
@@ -167,6 +170,37 @@ final class WholeOfPeople extends Hills {
             }
         }
         d.is("nights(4) at once", eachKind().nights(4), 15);
+        // Not he behind him WATCHES the VIEWER, but one to the left; or he behind him WATCHES, but another one.
+        x = hillOf(VIEWER, 0, 14, UP, GRINDER, 0, 20, RIGHT, VIEWER, 0, 13, RIGHT);
+        d.is("WATCHED by another one", x.nights(1), 1);
+        stateIs(d, x, 0, 14, UP, 1);
+        x = hillOf(VIEWER, 0, 14, UP, VIEWER, 0, 20, RIGHT, GRINDER, 0, 22, DOWN);
+        d.is("another one WATCHED", x.nights(1), 1);
+        stateIs(d, x, 0, 14, UP, 1);
+    }
+
+    /** Whichever number he has, and whether the one behind him comes later or earlier. */
+    private static void nightsByNumber(Due d) {
+        int[][] want = {{14, DOWN}, {14, RIGHT}, {20, UP}, {14, DOWN}, {14, UP}, {8, UP}};
+        for (int kind = 0; kind <= 5; kind++) {
+            // He at the BORE's back leaves a CELL free between them; EDGEs see but one CELL deep.
+            int behind = kind == BORE ? 26 : 20;
+            for (int number = 0; number <= 5; number++) {
+                SeenFromBehind x = withIdle(number == 5 ? 4 : number);
+                if (number == 5) {
+                    x.person(VIEWER, 0, behind, UP);
+                }
+                d.is("his number", x.person(kind, 0, 14, UP), number);
+                if (number < 5) {
+                    x.person(VIEWER, 0, behind, UP);
+                }
+                String one = "KIND " + kind + " as number " + number;
+                d.is(one + ", STARTS", x.nights(1), 1);
+                d.is(one + ", CELL", x.personOf(number, 2), want[kind][0]);
+                d.is(one + ", FACES", x.personOf(number, 3), want[kind][1]);
+                d.is(one + ", STARTS", x.personOf(number, 4), 1);
+            }
+        }
     }
 
     private static void starts(Due d) {

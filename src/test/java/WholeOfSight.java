@@ -162,6 +162,11 @@ final class WholeOfSight extends Hills {
                 d.is("knows(" + p + ", " + depth + ")", x.knows(p, depth), want[p][Math.min(4, depth)]);
             }
         }
+        // Who sees him is none whom he comes to.
+        x = hillOf(VIEWER, 0, 14, RIGHT, VIEWER, 0, 20, UP, VIEWER, 0, 8, UP);
+        d.is("knows(0, 6), seen by two", x.knows(0, 6), 1);
+        d.is("knows(1, 6)", x.knows(1, 6), 1 + 2);
+        d.is("knows(2, 6)", x.knows(2, 6), 1 + 4);
     }
 
     private static void safe(Due d) {
@@ -195,7 +200,11 @@ final class WholeOfSight extends Hills {
         for (int n = 0; n < want.length; n++) {
             d.is("turnAll() behind " + n, eachKind(n).turnAll(), want[n]);
         }
-        SeenFromBehind x = hillOf(VIEWER, 0, 14, UP, VIEWER, 0, 2, DOWN, GRINDER, 0, 17, UP, GRINDER, 0, 32, UP, GRINDER, 0, 12, UP);
+        SeenFromBehind x = hillOf(GRINDER, 0, 14, UP, VIEWER, 0, 8, DOWN, VIEWER, 0, 15, LEFT, VIEWER, 0, 20, UP);
+        d.is("three WATCH one", x.turnAll(), 3);
+        x = hillOf(VIEWER, 0, 14, UP, GRINDER, 0, 8, UP, GRINDER, 0, 20, UP, GRINDER, 0, 0, UP, GRINDER, 0, 5, UP, GRINDER, 0, 35, UP);
+        d.is("one AHEAD, one IN THE LENS", x.turnAll(), 1);
+        x = hillOf(VIEWER, 0, 14, UP, VIEWER, 0, 2, DOWN, GRINDER, 0, 17, UP, GRINDER, 0, 32, UP, GRINDER, 0, 12, UP);
         d.is("somebody all four ways", x.turnAll(), -9);
         x.stands(4, 6);
         d.is("nobody to the left", x.turnAll(), 2);
@@ -227,9 +236,14 @@ final class WholeOfSight extends Hills {
         d.is("KINDS, told but now", x.which(3, 0), 63);
         d.is("FACES at first, told but now", x.which(3, 2), 1 << DOWN);
         d.is("the ROW stays", x.count(6), 1);
-        x = hillOf(MASTER, 0, 14, UP, GRINDER, 0, 32, RIGHT);
-        tellRow(x, UP, DOWN);
-        d.is("FIGURES that see three behind", x.which(0, 1), 1023 - 15);
+        for (int number = 0; number <= 4; number++) {
+            x = withIdle(number);
+            x.person(MASTER, 0, 14, UP);
+            x.person(GRINDER, 0, 32, RIGHT);
+            tellRow(x, UP, DOWN);
+            d.is("FIGURES by which " + number + " sees three behind", x.which(number, 1), 1023 - 15);
+            d.is("KINDS, too", x.which(number, 0), 0);
+        }
     }
 
     private static void bestStep(Due d) {
