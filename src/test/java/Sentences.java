@@ -99,6 +99,6 @@ final class Sentences {
         for (int i = 0; i < text.length(); i++) {
             untold.append(told.get(i) ? '.' : text.charAt(i));
         }
-        due.holds(name + ", not quoted: " + untold.toString().replaceAll("\\.{2,}", "..."), !untold.toString().matches(".*\\w.*"));
+        due.holds(name + ", not quoted: " + untold.toString().replaceAll("(\\.+ *){2,}", "... "), !untold.toString().matches(".*\\w.*"));
     }
 }
